@@ -24,6 +24,7 @@ public final class DraughtsBoard {
     private static final int NONE = -1;
 
     // The position itself is ply 0; plays() looks at positions one and two moves further on.
+    // What is kept for each ply stands ply after ply in one array: 3 times 32 cells, 3 times 512 moves, and so on.
     private static final int PLIES = 3;
     private static final int CELLS = 96;
 
@@ -165,8 +166,9 @@ public final class DraughtsBoard {
         if (d == 1) {
             return listed[0];
         }
+        int all = listed[0];
         int ways = 0;
-        for (int k = 0; k < listed[0]; k++) {
+        for (int k = 0; k < all; k++) {
             carryOut(0, k, 1);
             ways += d == 2 ? waysForOne() : waysForTwo();
         }
@@ -175,8 +177,9 @@ public final class DraughtsBoard {
 
     public int mostTaken() {
         listMoves(0);
+        int all = listed[0];
         int most = 0;
-        for (int k = 0; k < listed[0]; k++) {
+        for (int k = 0; k < all; k++) {
             int taken = takenBy(k);
             if (taken > most) {
                 most = taken;
@@ -187,8 +190,9 @@ public final class DraughtsBoard {
 
     public int movable() {
         listMoves(0);
+        int all = listed[0];
         int squares = 0;
-        for (int k = 0; k < listed[0]; k++) {
+        for (int k = 0; k < all; k++) {
             squares |= 1 << paths[k * LONGEST_PATH];
         }
         return squares;
@@ -356,8 +360,9 @@ public final class DraughtsBoard {
 
     private int waysForTwo() {
         listMoves(1);
+        int all = listed[1];
         int ways = 0;
-        for (int k = 0; k < listed[1]; k++) {
+        for (int k = 0; k < all; k++) {
             carryOut(1, k, 2);
             listMoves(2);
             ways += listed[2];

@@ -522,6 +522,9 @@ public final class PromiseTest {
         due("14 last piece taken: plays(1)", x.plays(1), 1);
         due("14 last piece taken: plays(2)", x.plays(2), 0);
         due("14 last piece taken: plays(3)", x.plays(3), 0);
+        x = board(0, 4, 1, 13, 3);
+        due("14 side 0 goes to be taken: plays(2)", x.plays(2), 1);
+        due("14 side 0 goes to be taken: plays(3)", x.plays(3), 0);
         x = board(0, 9, 1, 14, 3, 13, 3);
         due("14 one left: plays(1)", x.plays(1), 2);
         due("14 one left: plays(2)", x.plays(2), 4);
