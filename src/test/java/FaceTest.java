@@ -5,11 +5,14 @@ import java.lang.reflect.Modifier;
 import java.nio.file.Files;
 import java.nio.file.Path;
 import java.util.Arrays;
+import java.util.Map;
 import java.util.Set;
+import java.util.TreeMap;
 import java.util.TreeSet;
+import java.util.regex.Matcher;
 import java.util.regex.Pattern;
 
-// The public face of the document, and those rules of LANGUAGE.md that reflection or a look for words can check.
+// The public face of the document, and those rules of LANGUAGE.md that reflection or the text of the source can show.
 public final class FaceTest {
     private static final Path SOURCE = Path.of("src/main/java/DraughtsBoard.java");
 
@@ -24,12 +27,15 @@ public final class FaceTest {
         "protected", "this", "super",
     };
 
+    private static final int MOST_DEPTH = 6;
+
     private static int wrong = 0;
 
     public static void main(String[] args) throws IOException {
         face();
         members();
         source();
+        calls();
         System.out.println(wrong == 0 ? "the face is as due" : wrong + " faults in the face");
         if (wrong != 0) {
             System.exit(1);
@@ -92,8 +98,12 @@ public final class FaceTest {
         }
     }
 
+    private static String codeWithoutComments() throws IOException {
+        return Files.readString(SOURCE).replaceAll("(?s)/\\*.*?\\*/", "").replaceAll("//[^\n]*", "");
+    }
+
     private static void source() throws IOException {
-        String code = Files.readString(SOURCE).replaceAll("(?s)/\\*.*?\\*/", "").replaceAll("//[^\n]*", "");
+        String code = codeWithoutComments();
         for (String word : NOT_IN_THE_LANGUAGE) {
             must(!Pattern.compile("\\b" + word + "\\b").matcher(code).find(), "no word " + word);
         }
@@ -103,5 +113,73 @@ public final class FaceTest {
             must(!makes || line.matches("    private final int\\[\\] \\w+ = new int\\[[A-Z_0-9]+\\];"),
                     "arrays are made in fields' initialisers: " + line);
         }
+    }
+
+    // A method begins on a line indented by four that ends with ") {", and ends with the brace so indented.
+    private static Map<String, String> bodies() throws IOException {
+        Map<String, String> bodies = new TreeMap<>();
+        Matcher method = Pattern.compile("(?ms)^    \\w[^\n=;]*?(\\w+)\\([^\n]*\\) \\{\n(.*?)^    \\}\n")
+                .matcher(codeWithoutComments());
+        while (method.find()) {
+            must(bodies.put(method.group(1), method.group(2)) == null, method.group(1) + " is the one of its name");
+        }
+        return bodies;
+    }
+
+    private static void calls() throws IOException {
+        Map<String, String> bodies = bodies();
+        // The constructor has a body like the methods.
+        must(bodies.size() == DraughtsBoard.class.getDeclaredMethods().length + 1, "all methods are looked at");
+        Map<String, Set<String>> called = new TreeMap<>();
+        for (Map.Entry<String, String> body : bodies.entrySet()) {
+            must(body.getValue().split("\n").length <= 60, body.getKey() + " is short");
+            called.put(body.getKey(), namesCalled(body.getKey(), body.getValue(), bodies.keySet()));
+        }
+        for (String name : bodies.keySet()) {
+            must(depth(name, called, 1) <= MOST_DEPTH, name + " calls at most six deep, and never itself");
+        }
+    }
+
+    private static Set<String> namesCalled(String caller, String body, Set<String> methods) {
+        Set<String> names = new TreeSet<>();
+        Matcher call = Pattern.compile("\\b(\\w+)\\(").matcher(body);
+        while (call.find()) {
+            if (methods.contains(call.group(1))) {
+                names.add(call.group(1));
+                must(!hasCall(argumentsFrom(body, call.end()), methods), "no call in a call's arguments: " + caller);
+            }
+        }
+        return names;
+    }
+
+    private static String argumentsFrom(String body, int begin) {
+        int open = 1;
+        int end = begin;
+        while (open > 0) {
+            open += body.charAt(end) == '(' ? 1 : body.charAt(end) == ')' ? -1 : 0;
+            end++;
+        }
+        return body.substring(begin, end - 1);
+    }
+
+    private static boolean hasCall(String text, Set<String> methods) {
+        Matcher call = Pattern.compile("\\b(\\w+)\\(").matcher(text);
+        while (call.find()) {
+            if (methods.contains(call.group(1))) {
+                return true;
+            }
+        }
+        return false;
+    }
+
+    // A ring of calls is found as one that is too deep.
+    private static int depth(String name, Map<String, Set<String>> called, int before) {
+        int deepest = before;
+        if (before <= MOST_DEPTH) {
+            for (String next : called.get(name)) {
+                deepest = Math.max(deepest, depth(next, called, before + 1));
+            }
+        }
+        return deepest;
     }
 }
